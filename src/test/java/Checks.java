@@ -1,0 +1,54 @@
+import java.util.Objects;
+
+/** Compares answers with those that are due, and ends the test with exit code 1 if one was wrong. */
+final class Checks {
+    interface Call {
+        Object answer();
+    }
+
+    private int wrong = 0;
+    private int counted = 0;
+
+    void due(int promise, Object got, Object want) {
+        due(promise, "", got, want);
+    }
+
+    void due(int promise, String what, Object got, Object want) {
+        counted++;
+        if (!Objects.equals(got, want)) {
+            wrong++;
+            System.out.println("promise " + promise + " " + what + " at " + place() + ": " + got + ", due is " + want);
+        }
+    }
+
+    /** The call has to throw just this exception, and may change nothing that can be seen. */
+    void refused(int promise, TailorWorkshop x, Class<? extends RuntimeException> want, Call call) {
+        String before = Views.all(x);
+        due(promise, thrownBy(call), want.getSimpleName());
+        due(promise, "what stands afterwards", Views.all(x), before);
+    }
+
+    static String thrownBy(Call call) {
+        try {
+            return "answer " + call.answer();
+        } catch (RuntimeException e) {
+            return e.getClass().getSimpleName();
+        }
+    }
+
+    void end() {
+        System.out.println(counted + " checks, " + wrong + " wrong");
+        if (wrong != 0) {
+            System.exit(1);
+        }
+    }
+
+    private static String place() {
+        for (StackTraceElement element : new Throwable().getStackTrace()) {
+            if (!element.getClassName().equals("Checks")) {
+                return element.getFileName() + ":" + element.getLineNumber();
+            }
+        }
+        return "?";
+    }
+}
