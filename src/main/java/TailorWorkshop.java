@@ -1225,7 +1225,7 @@ public final class TailorWorkshop {
                     return ~reached;
                 }
                 commands++;
-                if (reached == length) {
+                if (reached >= length) {
                     return NONE;
                 }
                 if (text[reached] != ';') {
