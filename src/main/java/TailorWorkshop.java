@@ -594,7 +594,7 @@ public final class TailorWorkshop {
         int sewnSet() {
             int set = 0;
             for (int i = 0; i < sleeves; i++) {
-                if (isSewn(i)) {
+                if (states[i] == SEWN) {
                     set |= 1 << i;
                 }
             }
@@ -606,7 +606,7 @@ public final class TailorWorkshop {
         }
 
         int unsewnCount() {
-            return sleeves - sewnCount();
+            return sleeves - Integer.bitCount(sewnSet());
         }
 
         boolean fitsAt(int sleeve, Customer wearer) {
@@ -635,7 +635,7 @@ public final class TailorWorkshop {
         }
 
         boolean isReadyFor(Customer wearer) {
-            return unsewnCount() == 0 && isFitting(wearer) && hasEvenSleeves();
+            return sewnSet() == allSleeves() && isFitting(wearer) && hasEvenSleeves();
         }
 
         int priceFor(Customer wearer) {
