@@ -21,17 +21,6 @@ final class Checks {
         }
     }
 
-    /** The call has to throw just this exception, and may change nothing that can be seen. */
-    void refused(int promise, TailorWorkshop x, Class<? extends RuntimeException> want, Call call) {
-        refused(promise, "", x, want, call);
-    }
-
-    void refused(int promise, String what, TailorWorkshop x, Class<? extends RuntimeException> want, Call call) {
-        String before = Views.all(x);
-        due(promise, what, thrownBy(call), want.getSimpleName());
-        due(promise, what + " what stands afterwards", Views.all(x), before);
-    }
-
     static String thrownBy(Call call) {
         try {
             return "answer " + call.answer();

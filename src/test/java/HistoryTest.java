@@ -1,164 +1,211 @@
-import java.util.ArrayList;
-import java.util.List;
 import java.util.NoSuchElementException;
 
 /** Promises 52 to 54: undo and the snapshot. */
 public final class HistoryTest {
-    private static final Checks CHECKS = new Checks();
+    private static final Book BOOK = new Book();
     private static final Class<NoSuchElementException> MISSING = NoSuchElementException.class;
+    private static final Class<IllegalStateException> STATE = IllegalStateException.class;
 
     private HistoryTest() {
     }
 
     public static void main(String[] arguments) {
-        eightChanges();
-        everyKindOfChange();
-        whatIsNoChange();
-        changesAfterUndo();
-        idOfTheNextSuit();
+        undo();
         save();
         restore();
-        snapshotAndUndo();
-        CHECKS.end();
+        BOOK.end();
     }
 
-    private static void eightChanges() {
+    /** So many purchases of the cloth 0: 1, 2, 3 and so on. */
+    private static TailorWorkshop withPurchases(int count) {
         TailorWorkshop x = new TailorWorkshop();
-        for (int i = 1; i <= 10; i++) {
+        for (int i = 1; i <= count; i++) {
             x.buyCloth(0, i);
         }
-        int stock = 55;
-        for (int i = 0; i < 8; i++) {
-            CHECKS.due(52, x.undo(), 7 - i);
-            stock -= 10 - i;
-            CHECKS.due(52, x.stock(0), stock);
-            CHECKS.due(52, x.boughtTotal(), stock);
-        }
-        CHECKS.refused(52, x, MISSING, x::undo);
-        CHECKS.due(52, x.stock(0), 3);
+        return x;
     }
 
-    /** Undoes each of these changes, the latest first, and compares what stands with what stood before it. */
-    private static void everyKindOfChange() {
-        List<Runnable> changes = new ArrayList<>();
-        TailorWorkshop x = new TailorWorkshop();
-        changes.add(() -> x.buyCloth(1, 500));
-        changes.add(() -> x.addCustomer(1, 20));
-        changes.add(() -> x.fit(0, 1, 21));
-        changes.add(() -> x.orderSuit(0, 1));
-        changes.add(() -> x.cut(0, 0));
-        changes.add(() -> x.sew(0, 0));
-        changes.add(() -> x.unpick(0, 0));
-        changes.add(() -> x.demand(0, 0, 1));
-        changes.add(() -> Workshops.run(x, "cut 0 0;sew 0 0;cut 0 1;sew 0 1;suit 0 2;suit 0 3"));
-        changes.add(() -> x.scrap(1));
-        changes.add(() -> x.deliver(0));
-        changes.add(() -> x.fit(0, 1, 21));
-        List<String> views = new ArrayList<>();
-        for (Runnable change : changes) {
-            views.add(Views.room(x));
-            change.run();
+    private static TailorWorkshop withPurchases(int count, int undone) {
+        TailorWorkshop x = withPurchases(count);
+        for (int i = 0; i < undone; i++) {
+            x.undo();
         }
-        for (int i = 0; i < 8; i++) {
-            CHECKS.due(52, x.undo(), 7 - i);
-            CHECKS.due(52, "step " + i, Views.room(x), views.get(views.size() - 1 - i));
-            CHECKS.due(44, x.isConsistent(), true);
-        }
+        return x;
     }
 
-    private static void whatIsNoChange() {
-        TailorWorkshop x = Workshops.withSuit();
-        x.save();
-        x.renderSuit(0);
-        x.renderOrder(0);
-        x.type('b');
-        Checks.thrownBy(x::runScript);
-        Checks.thrownBy(() -> x.buyCloth(0, 0));
-        Checks.thrownBy(() -> x.scrap(7));
-        CHECKS.due(52, "the order of the suit is the latest change", x.undo(), 2);
-        CHECKS.due(52, x.suitCount(), 0);
-        CHECKS.due(52, x.undo(), 1);
-        CHECKS.due(52, x.customerCount(), 0);
-        x.addCustomer(1, 20);
-        x.fit(0, 0, 20);
-        CHECKS.due(52, "a change that alters nothing is one", x.undo(), 2);
-        CHECKS.due(52, x.customerCount(), 1);
+    private static void undo() {
+        BOOK.promise(52);
+        BOOK.test("Undoes the latest change that has not been undone.", () -> {
+            TailorWorkshop x = withPurchases(10);
+            x.undo();
+            BOOK.due("the latest", x.stock(0), 45);
+            x.undo();
+            BOOK.due("the one before", x.stock(0), 36);
+            x.buyCloth(1, 5);
+            x.undo();
+            BOOK.due("a change after it", x.stock(0) + " " + x.stock(1), "36 0");
+            x.undo();
+            BOOK.due("what was undone does not come again", x.stock(0), 28);
+            x.buyCloth(1, 5);
+            x.buyCloth(1, 6);
+            x.buyCloth(1, 7);
+            StringBuilder text = new StringBuilder();
+            for (int i = 0; i < 5; i++) {
+                x.undo();
+                text.append(x.stock(0)).append('/').append(x.stock(1)).append(' ');
+            }
+            BOOK.due("three changes after it", text.toString(), "28/11 28/5 28/0 21/0 15/0 ");
+        });
+        BOOK.test("Returns the number of changes that can still be undone.", () -> {
+            TailorWorkshop x = withPurchases(10);
+            for (int left = 7; left >= 0; left--) {
+                BOOK.due("of ten", x.undo(), left);
+            }
+            BOOK.due("of eight", withPurchases(8).undo(), 7);
+            BOOK.due("of seven", withPurchases(7).undo(), 6);
+            BOOK.due("of one", withPurchases(1).undo(), 0);
+            TailorWorkshop y = withPurchases(10, 3);
+            y.buyCloth(1, 5);
+            BOOK.due("of ten, three undone, and one more", y.undo(), 5);
+            TailorWorkshop z = withPurchases(10, 8);
+            z.buyCloth(1, 5);
+            BOOK.due("of ten, eight undone, and one more", z.undo(), 0);
+        });
+        undoRefused();
     }
 
-    private static void changesAfterUndo() {
-        TailorWorkshop x = new TailorWorkshop();
-        for (int i = 0; i < 9; i++) {
-            x.buyCloth(0, 1);
-        }
-        x.undo();
-        x.undo();
-        x.buyCloth(1, 5);
-        CHECKS.due(52, x.undo(), 6);
-        CHECKS.due(52, x.stock(1), 0);
-        CHECKS.due(52, x.stock(0), 7);
-        CHECKS.due(52, "what was undone does not come again", x.undo(), 5);
-        CHECKS.due(52, x.stock(0), 6);
-    }
-
-    private static void idOfTheNextSuit() {
-        TailorWorkshop x = new TailorWorkshop();
-        x.addCustomer(1, 20);
-        x.save();
-        CHECKS.due(52, x.orderSuit(0, 0), 0);
-        x.undo();
-        CHECKS.due(52, x.orderSuit(0, 0), 0);
-        CHECKS.due(52, x.orderSuit(0, 0), 1);
-        x.restore();
-        CHECKS.due(54, x.orderSuit(0, 0), 0);
+    private static void undoRefused() {
+        BOOK.test("Throws `NoSuchElementException` if there is nothing to undo", () -> {
+            BOOK.refusedAsMade("no change", MISSING, TailorWorkshop::new, x -> x.undo());
+            BOOK.refusedAsMade("one, undone", MISSING, () -> withPurchases(1, 1), x -> x.undo());
+            BOOK.refusedAsMade("eight, undone", MISSING, () -> withPurchases(8, 8), x -> x.undo());
+            BOOK.refusedAsMade("nine, eight undone", MISSING, () -> withPurchases(9, 8), x -> x.undo());
+            BOOK.refusedAsMade("a hundred, eight undone", MISSING, () -> {
+                TailorWorkshop x = new TailorWorkshop();
+                for (int i = 0; i < 100; i++) {
+                    x.buyCloth(i % 4, 3);
+                }
+                for (int i = 0; i < 8; i++) {
+                    x.undo();
+                }
+                return x;
+            }, x -> x.undo());
+            BOOK.refusedAsMade("one, undone after a snapshot", MISSING, () -> Workshops.dressed(new TailorWorkshop()),
+                    x -> x.undo());
+            BOOK.refusedAsMade("calls that are no changes", MISSING, () -> {
+                TailorWorkshop x = Workshops.dressed(Workshops.withSuit());
+                x.restore();
+                x.save();
+                return x;
+            }, x -> x.undo());
+        });
     }
 
     private static void save() {
-        TailorWorkshop x = new TailorWorkshop();
-        CHECKS.due(53, x.save(), 0);
-        x.addCustomer(1, 20);
-        x.orderSuit(0, 0);
-        x.orderSuit(0, 0);
-        CHECKS.due(53, x.save(), 2);
-        CHECKS.due(53, "the later one replaces the earlier one", x.restore(), 2);
-        CHECKS.due(53, x.suitCount(), 2);
+        BOOK.promise(53);
+        BOOK.test("Takes a snapshot, which replaces an earlier one.", () -> {
+            TailorWorkshop x = Workshops.withSuit();
+            x.save();
+            x.cut(0, 0);
+            String view = Views.room(x);
+            x.save();
+            BOOK.due("what stands is as it was", Views.room(x), view);
+            x.scrap(0);
+            x.restore();
+            BOOK.due("the later one", Views.room(x), view);
+        });
+        BOOK.test("Returns the number of suits.", () -> {
+            BOOK.due("none", new TailorWorkshop().save(), 0);
+            TailorWorkshop x = Workshops.withSuit();
+            for (int i = 1; i <= 6; i++) {
+                BOOK.due(x.save(), i);
+                Checks.thrownBy(() -> x.orderSuit(0, 0));
+            }
+            BOOK.due("the most", x.save(), 6);
+            x.scrap(0);
+            BOOK.due("one is gone", x.save(), 5);
+        });
     }
 
-    private static void restore() {
+    /** One sleeve is sewn, one cut, with a demand between them; this is the snapshot, and then much is changed. */
+    private static TailorWorkshop withSnapshot() {
         TailorWorkshop x = Workshops.withSuit();
-        CHECKS.refused(54, x, IllegalStateException.class, x::restore);
         x.demand(0, 0, 1);
         Workshops.cutAndSew(x, 0, 0);
-        String saved = Views.room(x);
+        x.cut(0, 1);
         x.save();
-        Workshops.cutAndSew(x, 0, 1);
+        x.sew(0, 1);
         x.demand(0, 2, 3);
         x.fit(0, 3, 50);
         x.addCustomer(4, 44);
         x.orderSuit(1, 3);
+        x.buyCloth(3, 70);
+        x.cut(1, 7);
         x.scrap(0);
-        CHECKS.due(54, x.restore(), 1);
-        CHECKS.due(54, Views.room(x), saved);
-        CHECKS.refused(54, "nothing to undo", x, MISSING, x::undo);
-        x.buyCloth(2, 5);
-        x.scrap(0);
-        CHECKS.due(54, "the snapshot is kept", x.restore(), 1);
-        CHECKS.due(54, Views.room(x), saved);
-        x.buyCloth(2, 5);
-        CHECKS.due(54, x.undo(), 0);
-        CHECKS.due(54, Views.room(x), saved);
+        return x;
     }
 
-    private static void snapshotAndUndo() {
-        TailorWorkshop x = new TailorWorkshop();
-        x.buyCloth(0, 5);
-        x.save();
-        x.undo();
-        CHECKS.due(54, x.restore(), 0);
-        CHECKS.due(54, "undo leaves the snapshot", x.stock(0), 5);
-        x.buyCloth(0, 1);
-        x.undo();
-        x.buyCloth(0, 2);
-        x.restore();
-        CHECKS.due(54, "a change after the restore leaves it too", x.stock(0), 5);
+    private static final String SNAPSHOT = "stocks 955 0 0 0 totals 999 0 0 0 0\ncustomer 0: 20 20 20 20\n"
+            + "suit 0 of 0 for 0: 20s 20c p p demands 1 order 1,2,3 0<1";
+
+    private static void restore() {
+        BOOK.promise(54);
+        BOOK.test("Restores the snapshot, which is kept.", () -> {
+            TailorWorkshop x = withSnapshot();
+            x.restore();
+            BOOK.due("once", Views.room(x), SNAPSHOT);
+            x.demand(0, 3, 2);
+            x.unpick(0, 1);
+            x.fit(0, 0, 10);
+            x.restore();
+            BOOK.due("a second time", Views.room(x), SNAPSHOT);
+            x.scrap(0);
+            x.orderSuit(0, 0);
+            x.cut(1, 0);
+            x.restore();
+            BOOK.due("a third time", Views.room(x), SNAPSHOT);
+            BOOK.due("and the id of the next suit", x.orderSuit(0, 0), 1);
+        });
+        BOOK.test("Afterwards there is nothing to undo.", () -> {
+            BOOK.refusedAsMade("after eight changes", MISSING, () -> {
+                TailorWorkshop x = withSnapshot();
+                x.restore();
+                return x;
+            }, x -> x.undo());
+            TailorWorkshop x = withSnapshot();
+            x.restore();
+            x.buyCloth(2, 5);
+            BOOK.due("a later change can be undone", x.undo(), 0);
+            BOOK.due(Views.room(x), SNAPSHOT);
+            for (int i = 0; i < 9; i++) {
+                x.buyCloth(2, 5);
+            }
+            BOOK.due("eight later changes too", x.undo(), 7);
+        });
+        BOOK.test("Returns the number of suits.", () -> {
+            BOOK.due("of the snapshot, not of what stood", withSnapshot().restore(), 1);
+            TailorWorkshop x = Workshops.withCustomers();
+            x.save();
+            x.orderSuit(0, 0);
+            BOOK.due("none", x.restore(), 0);
+            for (int i = 0; i < 6; i++) {
+                x.orderSuit(0, 0);
+            }
+            x.save();
+            x.scrap(3);
+            BOOK.due("the most", x.restore(), 6);
+        });
+        BOOK.test("Throws `IllegalStateException` if there is no snapshot", () -> {
+            BOOK.refusedAsMade("a new one", STATE, TailorWorkshop::new, x -> x.restore());
+            BOOK.refusedAsMade("after changes", STATE, Workshops::withGoneSuits, x -> x.restore());
+            BOOK.refusedAsMade("after undo", STATE, () -> withPurchases(9, 8), x -> x.restore());
+            BOOK.refusedAsMade("after scripts", STATE,
+                    () -> Workshops.withTexts(Workshops.withFaults(Workshops.withSuit())), x -> x.restore());
+            TailorWorkshop x = new TailorWorkshop();
+            x.save();
+            x.buyCloth(0, 1);
+            x.undo();
+            BOOK.due("undo leaves the snapshot", x.restore(), 0);
+        });
     }
 }

@@ -4,7 +4,8 @@ import java.util.List;
 /** Long runs of mixed calls, each answered by the program and by the plain model; the same runs every time. */
 public final class ModelTest {
     private static final int RUNS = 2000;
-    private static final int CALLS = 512;
+    // A mixed call may stand for up to sixty-three, so that no object is used for more than 512.
+    private static final int CALLS = 449;
     private static final Checks CHECKS = new Checks();
     private static final String[] CHANGES = {"buyCloth", "fit", "cut", "cut", "cut", "sew", "sew", "sew", "unpick",
         "demand", "demand", "deliver", "scrap", "orderSuit", "addCustomer"};
@@ -113,8 +114,12 @@ public final class ModelTest {
 
     /** Mostly a suit that exists, and the earlier ones more often, so that some are finished. */
     private int suit() {
-        int count = program.suitCount();
-        return count == 0 ? odd(0) : odd(program.suitAt(Math.min(below(count), below(count))));
+        int count = (int) model.call("suitCount", 0, 0, 0);
+        return odd(count == 0 ? 0 : suitAt(Math.min(below(count), below(count))));
+    }
+
+    private int suitAt(int position) {
+        return (int) model.call("suitAt", position, 0, 0);
     }
 
     private int sleeve() {
@@ -142,8 +147,8 @@ public final class ModelTest {
     }
 
     private String command() {
-        int count = program.suitCount();
-        int suit = count == 0 ? 0 : program.suitAt(below(count));
+        int count = (int) model.call("suitCount", 0, 0, 0);
+        int suit = count == 0 ? 0 : suitAt(below(count));
         int sleeve = below(legs);
         switch (below(10)) {
             case 0:

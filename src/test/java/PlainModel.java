@@ -14,8 +14,8 @@ import java.util.stream.Collectors;
 /** The document told a second time, with the collections and patterns of the Java library, as slow as it likes. */
 final class PlainModel {
     private static final String NUMBER = "\\d{1,3}";
-    private static final String COMMAND = "(?:buy \\d N|customer \\d N|fit \\d N N|suit \\d \\d|(?:cut |sew |unpick )N N"
-            + "|order N N<N|deliver N|scrap N)";
+    private static final String COMMAND = "(?:buy \\d N|customer \\d N|fit \\d N N|suit \\d \\d"
+            + "|(?:cut |sew |unpick )N N|order N N<N|deliver N|scrap N)";
     private static final Pattern SCRIPT =
             Pattern.compile("C(?:;C)*".replace("C", COMMAND).replace("N", NUMBER));
 
@@ -469,7 +469,7 @@ final class PlainModel {
     private int runScript() {
         String script = buffer;
         buffer = "";
-        if (!SCRIPT.matcher(script).matches()) {
+        if (!isScript(script)) {
             errorPosition = errorIn(script);
             throw new IllegalArgumentException();
         }
@@ -502,8 +502,12 @@ final class PlainModel {
         change(name, numbers[0], numbers[1], numbers[2]);
     }
 
+    static boolean isScript(String script) {
+        return SCRIPT.matcher(script).matches();
+    }
+
     /** The first character with which no script begins, found by asking for each beginning whether it can go on. */
-    private static int errorIn(String script) {
+    static int errorIn(String script) {
         for (int i = 0; i < script.length(); i++) {
             Matcher matcher = SCRIPT.matcher(script.substring(0, i + 1));
             if (!matcher.matches() && !matcher.hitEnd()) {
