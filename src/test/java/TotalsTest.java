@@ -249,6 +249,7 @@ public final class TotalsTest {
         });
         BOOK.test("Returns true if all of this holds.", () -> {
             BOOK.due("nothing at all", new TailorWorkshop().isConsistent(), true);
+            BOOK.due("the most legs, all planned", Workshops.withSuit(8, 60).isConsistent(), true);
             TailorWorkshop x = Workshops.withSewnSuit(8, 60);
             BOOK.due("the most legs", x.isConsistent(), true);
             for (int i = 0; i < 12; i++) {
