@@ -22,13 +22,19 @@ public final class ScriptsTest {
         BOOK.end();
     }
 
-    private static void noSuit(Book.Call ofFirst, Book.Call ofThird, Book.Call ofLeast, Book.Call ofMost) {
+    private interface SuitCall {
+        Object on(TailorWorkshop x, int suit);
+    }
+
+    private static void noSuit(SuitCall call) {
         BOOK.test("Throws `NoSuchElementException` if there is no such suit", () -> {
-            BOOK.refused("none at all", MISSING, TailorWorkshop::new, ofFirst);
-            BOOK.refused("scrapped", MISSING, Workshops::withGoneSuits, ofThird);
-            BOOK.refused("not yet ordered", MISSING, Workshops::withSewnSuit, ofThird);
-            BOOK.refused("the least", MISSING, Workshops::withSewnSuit, ofLeast);
-            BOOK.refused("the greatest", MISSING, Workshops::withSewnSuit, ofMost);
+            for (int suit : Workshops.outside(1)) {
+                BOOK.refused("suit " + suit, MISSING, Workshops::withSewnSuit, x -> call.on(x, suit));
+            }
+            for (int suit : new int[] {2, 5, 6}) {
+                BOOK.refused("suit " + suit, MISSING, Workshops::withGoneSuits, x -> call.on(x, suit));
+            }
+            BOOK.refused("none at all", MISSING, TailorWorkshop::new, x -> call.on(x, 0));
         });
     }
 
@@ -60,8 +66,7 @@ public final class ScriptsTest {
             TailorWorkshop x = Workshops.withSewnSuit(8, 60);
             rendered("the longest", x, x.renderSuit(0), "60s 60s|".repeat(7) + "60s 60s");
         });
-        noSuit(x -> x.renderSuit(0), x -> x.renderSuit(2), x -> x.renderSuit(Integer.MIN_VALUE),
-                x -> x.renderSuit(Integer.MAX_VALUE));
+        noSuit(TailorWorkshop::renderSuit);
     }
 
     private static void renderOrder() {
@@ -88,8 +93,7 @@ public final class ScriptsTest {
             TailorWorkshop x = Workshops.withSuit(8, 20);
             rendered("the longest", x, x.renderOrder(0), "0,1,2,3,4,5,6,7,8,9,10,11,12,13,14,15");
         });
-        noSuit(x -> x.renderOrder(0), x -> x.renderOrder(2), x -> x.renderOrder(Integer.MIN_VALUE),
-                x -> x.renderOrder(Integer.MAX_VALUE));
+        noSuit(TailorWorkshop::renderOrder);
     }
 
     private static TailorWorkshop withText() {
