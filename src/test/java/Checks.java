@@ -13,11 +13,13 @@ final class Checks {
         due(promise, "", got, want);
     }
 
+    /** The promise 0 stands for what is not of one promise. */
     void due(int promise, String what, Object got, Object want) {
         counted++;
         if (!Objects.equals(got, want)) {
             wrong++;
-            System.out.println("promise " + promise + " " + what + " at " + place() + ": " + got + ", due is " + want);
+            String of = promise == 0 ? "" : "promise " + promise + " ";
+            System.out.println(of + what + " at " + place() + ": " + got + ", due is " + want);
         }
     }
 

@@ -8,12 +8,17 @@ import java.util.LinkedHashSet;
 import java.util.List;
 import java.util.Map;
 import java.util.Set;
+import java.util.regex.Matcher;
+import java.util.regex.Pattern;
 
 /** The sentences of ../shared/DOC.md, each under its heading: "Terms", "Promise 1", "Promise 2" and so on. */
 final class Document {
     private static final Path FILE = Path.of("../shared/DOC.md");
+    // What stands before the first sentence of a promise, such as: `int deliver(int suit) throws X, Y`:
+    private static final Pattern SIGNATURE = Pattern.compile("^`(?:\\w+ )?(\\w+)\\(([^)]*)\\)[^`]*`: ");
 
     private final Map<String, Set<String>> sentences = new LinkedHashMap<>();
+    private final Map<String, String> calls = new LinkedHashMap<>();
     private String heading = "";
     private boolean isCode = false;
 
@@ -43,6 +48,15 @@ final class Document {
         return sentences.getOrDefault(wanted, Set.of());
     }
 
+    /** For each heading that promises a call, the call without its types, such as deliver(suit). */
+    Map<String, String> calls() {
+        return calls;
+    }
+
+    boolean says(String sentence) {
+        return sentences.values().stream().anyMatch(under -> under.contains(sentence));
+    }
+
     private boolean isProse(String line) {
         return !isCode && !line.isBlank() && !line.startsWith("#") && !line.startsWith("```") && !line.startsWith("- ");
     }
@@ -59,14 +73,22 @@ final class Document {
         }
     }
 
-    /** A sentence ends with a full stop before a capital letter; one of a single word is a heading. */
     private void split(String paragraph) {
-        String text = paragraph.replaceAll("^`[^`]*\\)[^`]*`: ", "");
-        for (String sentence : text.split("(?<=\\.) (?=[A-Z])")) {
+        Matcher signature = SIGNATURE.matcher(paragraph);
+        if (signature.find()) {
+            String names = signature.group(2).replaceAll("\\w+ (\\w+)", "$1");
+            calls.put(heading, signature.group(1) + "(" + names + ")");
+        }
+        for (String sentence : sentencesOf(signature.replaceFirst(""))) {
             if (sentence.contains(" ")) {
                 add(sentence);
             }
         }
+    }
+
+    /** A sentence ends with a full stop before a capital letter; one of a single word is a heading. */
+    static String[] sentencesOf(String text) {
+        return text.split("(?<=\\.) (?=[A-Z])");
     }
 
     private void add(String sentence) {
